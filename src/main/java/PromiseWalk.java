@@ -46,13 +46,7 @@ public final class PromiseWalk {
             return OUTSIDE;
         }
         Sheet text = sheets[sheet];
-        int found = text.faultAsRow(lane);
-        if (found == NO_FAULT && n < 0) {
-            found = SIZE;
-        }
-        if (found == NO_FAULT) {
-            found = text.faultOfCells(i, n);
-        }
+        int found = text.faultAsRow(lane, i, n);
         if (found != NO_FAULT) {
             return faulted(found);
         }
@@ -141,22 +135,14 @@ public final class PromiseWalk {
         if (!company.has(k)) {
             return UNKNOWN;
         }
-        if (company.footmen[k].sits) {
-            return STATE;
-        }
-        company.footmen[k].sits = true;
-        return Integer.bitCount(company.sitters());
+        return company.turn(k, true) ? Integer.bitCount(company.sitters()) : STATE;
     }
 
     public int rise(int k) {
         if (!company.has(k)) {
             return UNKNOWN;
         }
-        if (!company.footmen[k].sits) {
-            return STATE;
-        }
-        company.footmen[k].sits = false;
-        return Integer.bitCount(company.sitters());
+        return company.turn(k, false) ? Integer.bitCount(company.sitters()) : STATE;
     }
 
     public int give(int kind, int from, int to, int calves) {
@@ -185,10 +171,7 @@ public final class PromiseWalk {
             return STATE;
         }
         Sheet acts = sheets[sheet];
-        int found = acts.faultAsRow(lane);
-        if (found == NO_FAULT) {
-            found = acts.faultOfCells(i, 2 * n);
-        }
+        int found = acts.faultAsRow(lane, i, 2 * n);
         if (found != NO_FAULT) {
             return faulted(found);
         }
@@ -390,10 +373,7 @@ public final class PromiseWalk {
         if (!isSheet(k) || !isLane(lane)) {
             return LOST;
         }
-        fault = sheets[k].faultAsRow(lane);
-        if (fault == NO_FAULT) {
-            fault = sheets[k].faultOfCells(i, 1);
-        }
+        fault = sheets[k].faultAsRow(lane, i, 1);
         return fault == NO_FAULT ? sheets[k].at(i) : LOST;
     }
 
@@ -599,11 +579,15 @@ public final class PromiseWalk {
             }
         }
 
-        int faultAsRow(int wanted) {
+        /** The first FAULT, if n cells from i on are taken as those of a row of a LANE. */
+        int faultAsRow(int wanted, int i, int n) {
             if (hasNothing()) {
                 return NULL;
             }
-            return lane == wanted ? NO_FAULT : CAST;
+            if (lane != wanted) {
+                return CAST;
+            }
+            return n < 0 ? SIZE : faultOfCells(i, n);
         }
 
         int faultOfCells(int i, int n) {
@@ -948,6 +932,15 @@ public final class PromiseWalk {
             }
         }
 
+        /** Whether a FOOTMAN could sit down, or rise; if so it has. */
+        boolean turn(int k, boolean sits) {
+            if (!has(k) || footmen[k].sits == sits) {
+                return false;
+            }
+            footmen[k].sits = sits;
+            return true;
+        }
+
         void passDay(Streets streets) {
             for (int k = 0; k < count; k++) {
                 Footman footman = footmen[k];
@@ -1031,7 +1024,7 @@ public final class PromiseWalk {
                 int act = acts.at(i + 2 * pair + 1);
                 if (act == DAYS_PASS) {
                     passDays(first, streets);
-                } else if (!turn(first, act == SITS_DOWN)) {
+                } else if (!doubles.turn(first, act == SITS_DOWN)) {
                     firstWrong = pair;
                 }
             }
@@ -1045,15 +1038,6 @@ public final class PromiseWalk {
                     allArrivedBehind = daysPassed;
                 }
             }
-        }
-
-        /** Whether a FOOTMAN could sit down, or rise; if so it has. */
-        private boolean turn(int k, boolean sits) {
-            if (!doubles.has(k) || doubles.footmen[k].sits == sits) {
-                return false;
-            }
-            doubles.footmen[k].sits = sits;
-            return true;
         }
 
         int told(int what, Streets streets) {

@@ -12,6 +12,8 @@ public final class DaysTest {
         seasonAnswers();
         seasonFromHowAllIs();
         seasonArrivals();
+        seasonOfSix();
+        seasonOfSomeCells();
         seasonFirstWrong();
         seasonRefusals();
         seasonFaults();
@@ -148,6 +150,27 @@ public final class DaysTest {
         due.is("ahead of it, no pairs", season(x, 4), 0);
         x.pave(0, 1, 6);
         due.is("no more ahead of it", season(x, 4, 9, DAYS), 1);
+    }
+
+    private static void seasonOfSix() {
+        PromiseWalk x = Towns.of("t29;b011;b012;b013;b014;b015");
+        due.is("footman 5 is given", x.give(0, 0, 1, 6), 5);
+        due.is("six: arrived", season(x, 0, 2, DAYS), 2);
+        due.is("six: who sits", season(x, 2, 5, SIT, 0, SIT, 2, DAYS), 33);
+        due.is("six: walked together", season(x, 3, 0, SIT, 1, DAYS), 20);
+        due.is("six: footman 5 walked", season(x, 15, 1, DAYS), 6);
+        due.is("six: all had arrived", season(x, 4, 9, DAYS), 9);
+        due.is("six sit: sit(5)", x.sit(5), 1);
+        due.is("six: days(9)", x.days(9), 5);
+    }
+
+    private static void seasonOfSomeCells() {
+        PromiseWalk x = Towns.of(Towns.FOUR);
+        Towns.row(x, 1, Towns.BYTES, 99, 99, 0, SIT, 1, SIT, 99, 99);
+        due.is("two pairs of many cells", x.season(1, 0, 2, 2, 2), 3);
+        due.is("the second of them", x.season(1, 0, 4, 1, 2), 2);
+        due.is("a pair behind them is no act", x.season(1, 0, 4, 2, 2), -2);
+        due.is("a pair ahead of them is no act", x.season(1, 0, 0, 2, 2), -2);
     }
 
     private static void seasonFirstWrong() {

@@ -126,6 +126,14 @@ public final class WaysTest {
         PromiseWalk ring = Towns.of("t4203303;b001");
         due.is("a ring: tree(0)", ring.tree(0), 8);
         due.is("a ring: tree(1)", ring.tree(1), 1 << 0 | 1 << 2 | 1 << 3);
+        PromiseWalk two = Towns.of("t29;b001");
+        due.is("a street of 9: tree(0)", two.tree(0), 9);
+        due.is("a street of 9: tree(1)", two.tree(1), 1);
+        // CORNER 0 hangs by the longest STREET, that to the last CORNER.
+        PromiseWalk last = Towns.of("t4009110;b001");
+        due.is("the first by the last: tree(0)", last.tree(0), 11);
+        due.is("the first by the last: tree(1)", last.tree(1), 1 << 2 | 1 << 3 | 1 << 4);
+        due.is("asked again: tree(1)", last.tree(1), 1 << 2 | 1 << 3 | 1 << 4);
     }
 
     private static void errandsAre(PromiseWalk x, int days, int... goals) {

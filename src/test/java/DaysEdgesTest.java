@@ -5,35 +5,37 @@ public final class DaysEdgesTest {
     private static final Due due = new Due("DaysEdgesTest");
 
     public static void main(String[] args) {
-        daysAtBothEnds();
-        daysAreCounted();
-        daysTellWhoArrivedInThem();
-        whoSitsDoesNotWalk();
-        whoHasArrivedDoesNotWalk();
-        whoNeverArrivesGoesOn();
-        whoWalksPastHasArrived();
-        sitsAndIsToldToSit();
-        doesNotSitAndIsToldToRise();
-        howManySit();
-        whoHasArrivedMaySit();
-        sixFootmen();
-        givenSetsOffAnew();
-        givenIsInside();
-        streetTakenAway();
-        streetLaidAgain();
-        seasonOfNoPair();
-        seasonOfTwentyPairs();
-        firstWrongAtTheFirstPair();
-        firstWrongAtTheLastPair();
-        firstWrongForEachWhat();
-        seasonChangesNothing();
-        seasonFromHowAllIsNow();
-        noDaysAndNineDays();
-        seasonWalked();
-        seasonAllArrivedFirst();
-        seasonOfNoSuchFootman();
-        seasonOfEachFootman();
-        seasonOfEachLane();
+        due.each(
+            DaysEdgesTest::daysAtBothEnds,
+            DaysEdgesTest::daysAreCounted,
+            DaysEdgesTest::daysTellWhoArrivedInThem,
+            DaysEdgesTest::whoSitsDoesNotWalk,
+            DaysEdgesTest::whoHasArrivedDoesNotWalk,
+            DaysEdgesTest::whoNeverArrivesGoesOn,
+            DaysEdgesTest::whoWalksPastHasArrived,
+            DaysEdgesTest::sitsAndIsToldToSit,
+            DaysEdgesTest::doesNotSitAndIsToldToRise,
+            DaysEdgesTest::howManySit,
+            DaysEdgesTest::whoHasArrivedMaySit,
+            DaysEdgesTest::sixFootmen,
+            DaysEdgesTest::givenSetsOffAnew,
+            DaysEdgesTest::givenIsInside,
+            DaysEdgesTest::streetTakenAway,
+            DaysEdgesTest::streetLaidAgain,
+            DaysEdgesTest::seasonOfNoPair,
+            DaysEdgesTest::seasonOfTwentyPairs,
+            DaysEdgesTest::firstWrongAtTheFirstPair,
+            DaysEdgesTest::firstWrongAtTheLastPair,
+            DaysEdgesTest::firstWrongForEachWhat,
+            DaysEdgesTest::seasonChangesNothing,
+            DaysEdgesTest::seasonFromHowAllIsNow,
+            DaysEdgesTest::seasonFromWhereTheyGo,
+            DaysEdgesTest::noDaysAndNineDays,
+            DaysEdgesTest::seasonWalked,
+            DaysEdgesTest::seasonAllArrivedFirst,
+            DaysEdgesTest::seasonOfNoSuchFootman,
+            DaysEdgesTest::seasonOfEachFootman,
+            DaysEdgesTest::seasonOfEachLane);
         due.finish();
     }
 
@@ -399,6 +401,23 @@ public final class DaysEdgesTest {
         due.is("behind a DAY: WALKED by 3", season(x, 13), 4);
         x.town(0, Towns.BYTES, 0, 28);
         due.is("behind a town", season(x, 2), 0);
+    }
+
+    private static void seasonFromWhereTheyGo() {
+        due.sentence("from how all is now: FROM where, TO where, by what PACE each goes");
+        // It is 1 from 2 to 1, but 9 between all others.
+        PromiseWalk x = Towns.of(Towns.text(3, '9', "12:1", ";b211;b021;m101;p122;b009"));
+        int[] walked = {1, 9, 10, 1, 0};
+        for (int k = 0; k < walked.length; k++) {
+            due.is("FOOTMAN " + k, season(x, 10 + k, 9, DAYS), walked[k]);
+        }
+        due.is("ARRIVED behind a DAY", season(x, 0, 1, DAYS), 3);
+        due.is("all had ARRIVED", season(x, 4, 9, DAYS), 9);
+        Towns.write(x, 0, Towns.BYTES, "t3991;b101;b211");
+        due.is("another TOWN", x.town(0, Towns.BYTES, 0, 15), 2);
+        due.is("FOOTMAN 0 of it", season(x, 10, 9, DAYS), 9);
+        due.is("FOOTMAN 1 of it", season(x, 11, 9, DAYS), 1);
+        due.is("FOOTMAN 2 of it", season(x, 12, 9, DAYS), -9);
     }
 
     private static void noDaysAndNineDays() {

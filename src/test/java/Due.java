@@ -10,6 +10,17 @@ final class Due {
         this.test = test;
     }
 
+    /** Runs tests one by one: one that throws is wrong, and the others are run nonetheless. */
+    void each(Runnable... tests) {
+        for (Runnable test : tests) {
+            try {
+                test.run();
+            } catch (RuntimeException thrown) {
+                tell("a call", thrown.toString(), "an answer");
+            }
+        }
+    }
+
     /** What is asked from here on tests this sentence of the document, which wants an answer at least. */
     void sentence(String words) {
         endSentence();

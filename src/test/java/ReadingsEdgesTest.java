@@ -4,29 +4,30 @@ public final class ReadingsEdgesTest {
     private static final Due due = new Due("ReadingsEdgesTest");
 
     public static void main(String[] args) {
-        noReadings();
-        eightReadings();
-        numberedByHowManyAreAhead();
-        noneTakenBack();
-        allTakenBack();
-        theLastOnesTakenBack();
-        daysAtBothEnds();
-        whatIsWalkedAtBothEnds();
-        readingOfNoDays();
-        asIfItNeverArrived();
-        inPlaceOfWhatItIsAlone();
-        allReadingsOfAllFootmen();
-        calvesAtBothEnds();
-        calvesOfEachKind();
-        kindsOfEachCalves();
-        nothingIsChanged();
-        shareOfNone();
-        shareOfAll();
-        shareInLeastTerms();
-        sharesOfAnyOtherCorner();
-        setsOffAnew();
-        daysOfOddsAtBothEnds();
-        whichOfOdds();
+        due.each(
+            ReadingsEdgesTest::noReadings,
+            ReadingsEdgesTest::eightReadings,
+            ReadingsEdgesTest::numberedByHowManyAreAhead,
+            ReadingsEdgesTest::noneTakenBack,
+            ReadingsEdgesTest::allTakenBack,
+            ReadingsEdgesTest::theLastOnesTakenBack,
+            ReadingsEdgesTest::daysAtBothEnds,
+            ReadingsEdgesTest::whatIsWalkedAtBothEnds,
+            ReadingsEdgesTest::readingOfNoDays,
+            ReadingsEdgesTest::asIfItNeverArrived,
+            ReadingsEdgesTest::inPlaceOfWhatItIsAlone,
+            ReadingsEdgesTest::allReadingsOfAllFootmen,
+            ReadingsEdgesTest::calvesAtBothEnds,
+            ReadingsEdgesTest::calvesOfEachKind,
+            ReadingsEdgesTest::kindsOfEachCalves,
+            ReadingsEdgesTest::nothingIsChanged,
+            ReadingsEdgesTest::shareOfNone,
+            ReadingsEdgesTest::shareOfAll,
+            ReadingsEdgesTest::shareInLeastTerms,
+            ReadingsEdgesTest::sharesOfAnyOtherCorner,
+            ReadingsEdgesTest::setsOffAnew,
+            ReadingsEdgesTest::daysOfOddsAtBothEnds,
+            ReadingsEdgesTest::whichOfOdds);
         due.finish();
     }
 

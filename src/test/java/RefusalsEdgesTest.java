@@ -6,23 +6,24 @@ public final class RefusalsEdgesTest {
     private static final Due due = new Due("RefusalsEdgesTest");
 
     public static void main(String[] args) {
-        theFirstOfSeveralRefusals();
-        theFirstOfSeveralFaults();
-        eachRefusal();
-        eachFault();
-        refusalsChangeNothing();
-        faultsChangeNothing();
-        refusalsTakeTheFaultBack();
-        faultsAreTold();
-        callsThatNameNoFaultsLeaveIt();
-        callsThatCameToNone();
-        answersThatAreNoFaults();
-        noFaultAheadOfAny();
-        indexOfNoCells();
-        lostWhereALongIsAnswered();
-        nothingIsNoNone();
-        setsAreBits();
-        quotientsAreCut();
+        due.each(
+            RefusalsEdgesTest::theFirstOfSeveralRefusals,
+            RefusalsEdgesTest::theFirstOfSeveralFaults,
+            RefusalsEdgesTest::eachRefusal,
+            RefusalsEdgesTest::eachFault,
+            RefusalsEdgesTest::refusalsChangeNothing,
+            RefusalsEdgesTest::faultsChangeNothing,
+            RefusalsEdgesTest::refusalsTakeTheFaultBack,
+            RefusalsEdgesTest::faultsAreTold,
+            RefusalsEdgesTest::callsThatNameNoFaultsLeaveIt,
+            RefusalsEdgesTest::callsThatCameToNone,
+            RefusalsEdgesTest::answersThatAreNoFaults,
+            RefusalsEdgesTest::noFaultAheadOfAny,
+            RefusalsEdgesTest::indexOfNoCells,
+            RefusalsEdgesTest::lostWhereALongIsAnswered,
+            RefusalsEdgesTest::nothingIsNoNone,
+            RefusalsEdgesTest::setsAreBits,
+            RefusalsEdgesTest::quotientsAreCut);
         due.finish();
     }
 

@@ -5,36 +5,37 @@ public final class SheetsEdgesTest {
     private static final Due due = new Due("SheetsEdgesTest");
 
     public static void main(String[] args) {
-        rowOfNone();
-        rowOfSixty();
-        rowOfMore();
-        rowOfLess();
-        zeroAtFirst();
-        newRowForTheOld();
-        fourSheets();
-        loseWhatItHas();
-        cutToAByte();
-        cutToAShort();
-        notCutOfInts();
-        copiedIsAsItWas();
-        cellAtBothEnds();
-        cellOfAnotherLane();
-        copiedOntoItselfOver();
-        copiedOntoItselfUnder();
-        copiedOntoItselfInPlace();
-        copiedFromTheFirstToTheOther();
-        copiedNone();
-        copiedAllOfSixty();
-        copyThatIsFaultedCopiesNone();
-        telling();
-        rung();
-        traceOfEachBody();
-        traceWraps();
-        traceOfOthersStays();
-        takenAsOneOfAKind();
-        faultOfTheLatest();
-        manyOfEach();
-        manyWithoutATown();
+        due.each(
+            SheetsEdgesTest::rowOfNone,
+            SheetsEdgesTest::rowOfSixty,
+            SheetsEdgesTest::rowOfMore,
+            SheetsEdgesTest::rowOfLess,
+            SheetsEdgesTest::zeroAtFirst,
+            SheetsEdgesTest::newRowForTheOld,
+            SheetsEdgesTest::fourSheets,
+            SheetsEdgesTest::loseWhatItHas,
+            SheetsEdgesTest::cutToAByte,
+            SheetsEdgesTest::cutToAShort,
+            SheetsEdgesTest::notCutOfInts,
+            SheetsEdgesTest::copiedIsAsItWas,
+            SheetsEdgesTest::cellAtBothEnds,
+            SheetsEdgesTest::cellOfAnotherLane,
+            SheetsEdgesTest::copiedOntoItselfOver,
+            SheetsEdgesTest::copiedOntoItselfUnder,
+            SheetsEdgesTest::copiedOntoItselfInPlace,
+            SheetsEdgesTest::copiedFromTheFirstToTheOther,
+            SheetsEdgesTest::copiedNone,
+            SheetsEdgesTest::copiedAllOfSixty,
+            SheetsEdgesTest::copyThatIsFaultedCopiesNone,
+            SheetsEdgesTest::telling,
+            SheetsEdgesTest::rung,
+            SheetsEdgesTest::traceOfEachBody,
+            SheetsEdgesTest::traceWraps,
+            SheetsEdgesTest::traceOfOthersStays,
+            SheetsEdgesTest::takenAsOneOfAKind,
+            SheetsEdgesTest::faultOfTheLatest,
+            SheetsEdgesTest::manyOfEach,
+            SheetsEdgesTest::manyWithoutATown);
         due.finish();
     }
 

@@ -3,33 +3,34 @@ public final class TownEdgesTest {
     private static final Due due = new Due("TownEdgesTest");
 
     public static void main(String[] args) {
-        newObjectHasNoTown();
-        newObjectHasNoSheets();
-        twoToSixCorners();
-        oneToFiveFootmen();
-        textEndsTooSoon();
-        tooManyFootmen();
-        cornerThatThereIsnt();
-        digitsOutside();
-        lettersOfKinds();
-        codesBehindTheEnd();
-        eachCodeAtEachPlace();
-        firstOfSeveralFaults();
-        codesOfWideLanes();
-        onlyTheCellsThatAreTaken();
-        takenMakesAllAnew();
-        takenLeavesSheetsAndTrace();
-        notTakenLeavesAll();
-        streetsByTheirNumbers();
-        ofFootmanTellsEach();
-        paces();
-        streetBothWays();
-        paveAtItsEnds();
-        farToItself();
-        farByTheLeastLengths();
-        farNone();
-        arrivedAsStreetsAreNow();
-        arrivedByNoLess();
+        due.each(
+            TownEdgesTest::newObjectHasNoTown,
+            TownEdgesTest::newObjectHasNoSheets,
+            TownEdgesTest::twoToSixCorners,
+            TownEdgesTest::oneToFiveFootmen,
+            TownEdgesTest::textEndsTooSoon,
+            TownEdgesTest::tooManyFootmen,
+            TownEdgesTest::cornerThatThereIsnt,
+            TownEdgesTest::digitsOutside,
+            TownEdgesTest::lettersOfKinds,
+            TownEdgesTest::codesBehindTheEnd,
+            TownEdgesTest::eachCodeAtEachPlace,
+            TownEdgesTest::firstOfSeveralFaults,
+            TownEdgesTest::codesOfWideLanes,
+            TownEdgesTest::onlyTheCellsThatAreTaken,
+            TownEdgesTest::takenMakesAllAnew,
+            TownEdgesTest::takenLeavesSheetsAndTrace,
+            TownEdgesTest::notTakenLeavesAll,
+            TownEdgesTest::streetsByTheirNumbers,
+            TownEdgesTest::ofFootmanTellsEach,
+            TownEdgesTest::paces,
+            TownEdgesTest::streetBothWays,
+            TownEdgesTest::paveAtItsEnds,
+            TownEdgesTest::farToItself,
+            TownEdgesTest::farByTheLeastLengths,
+            TownEdgesTest::farNone,
+            TownEdgesTest::arrivedAsStreetsAreNow,
+            TownEdgesTest::arrivedByNoLess);
         due.finish();
     }
 
@@ -298,6 +299,17 @@ public final class TownEdgesTest {
         PromiseWalk x = new PromiseWalk();
         Towns.write(x, 0, Towns.BYTES, "!".repeat(52) + "t29;b011");
         due.is("the last of sixty cells", x.town(0, Towns.BYTES, 52, 8), 1);
+        whateverIsBehindTheFirst();
+    }
+
+    /** The second cell would tell how many CORNERS, but is not taken. */
+    private static void whateverIsBehindTheFirst() {
+        for (int code = 65500; code < 65700; code++) {
+            PromiseWalk x = new PromiseWalk();
+            Towns.row(x, 0, Towns.INTS, 't', code);
+            due.is("t alone, behind it " + code, x.town(0, Towns.INTS, 0, 1), -101);
+            due.is("none", x.town(0, Towns.INTS, 0, 0), -100);
+        }
     }
 
     private static PromiseWalk retaken(String text) {

@@ -11,35 +11,37 @@ public final class WaysEdgesTest {
     private static final Due due = new Due("WaysEdgesTest");
 
     public static void main(String[] args) {
-        wayToItself();
-        wayOfNone();
-        wayAtItsEnds();
-        wayOfTheLongestRow();
-        severalWays();
-        severalWaysOfOtherMany();
-        roundByItsOwnCorners();
-        roundThatCantBeGone();
-        roundFarther();
-        keptAlready();
-        keptNever();
-        keptAtTheFarthest();
-        keptAsDaysGoBy();
-        keptFromWhatIsWalked();
-        severalMiddles();
-        middleOfNone();
-        middleIsTheFarthestOther();
-        middleAtItsEnds();
-        severalTrees();
-        treeOfNone();
-        treeIsTheLeast();
-        treeAtItsEnds();
-        severalRowsOfErrands();
-        errandsAsOftenAsTheyGo();
-        errandsToItself();
-        errandsOfNone();
-        errandsAllSetOffNow();
-        errandsTheLastOneSoonest();
-        errandsAtItsEnds();
+        due.each(
+            WaysEdgesTest::wayToItself,
+            WaysEdgesTest::wayOfNone,
+            WaysEdgesTest::wayAtItsEnds,
+            WaysEdgesTest::wayOfTheLongestRow,
+            WaysEdgesTest::severalWays,
+            WaysEdgesTest::severalWaysOfOtherMany,
+            WaysEdgesTest::roundByItsOwnCorners,
+            WaysEdgesTest::roundThatCantBeGone,
+            WaysEdgesTest::roundFarther,
+            WaysEdgesTest::keptAlready,
+            WaysEdgesTest::keptNever,
+            WaysEdgesTest::keptAtTheFarthest,
+            WaysEdgesTest::keptAsDaysGoBy,
+            WaysEdgesTest::keptFromWhatIsWalked,
+            WaysEdgesTest::severalMiddles,
+            WaysEdgesTest::middleOfNone,
+            WaysEdgesTest::middleIsTheFarthestOther,
+            WaysEdgesTest::middleAtItsEnds,
+            WaysEdgesTest::severalTrees,
+            WaysEdgesTest::treeOfNone,
+            WaysEdgesTest::treeIsTheLeast,
+            WaysEdgesTest::treeAtItsEnds,
+            WaysEdgesTest::severalRowsOfErrands,
+            WaysEdgesTest::errandsAsOftenAsTheyGo,
+            WaysEdgesTest::errandsToItself,
+            WaysEdgesTest::errandsOfNone,
+            WaysEdgesTest::errandsAllSetOffNow,
+            WaysEdgesTest::errandsTheLastOneSoonest,
+            WaysEdgesTest::errandsAskedAgain,
+            WaysEdgesTest::errandsAtItsEnds);
         due.finish();
     }
 
@@ -372,6 +374,7 @@ public final class WaysEdgesTest {
         errandsAre("t3999;b111;b001", 0, 1, 0);
         // FOOTMAN 2 takes 3 DAYS to 0, so that the others may take as many, though they need not go at all.
         errandsAre(Towns.text(3, '0', "01:1 02:3 12:9", ";b101;b011;b201"), 3, 0, 1, 0);
+        errandsAre(Towns.text(3, '0', "01:1 02:3 12:9", ";b201;b101;b011"), 3, 0, 0, 1);
         errandsAre(Towns.text(3, '9', "01:1 02:1 12:2", ";b011;b021;b001"), 1, 0, 1, 2);
     }
 
@@ -423,6 +426,23 @@ public final class WaysEdgesTest {
         PromiseWalk kinds = Towns.of("t3900;b004;b014;p018;m017");
         due.is("three to 1, one to 0", kinds.errands(-1), 3);
         due.is("FOOTMAN 0", kinds.errands(0), 0);
+    }
+
+    private static void errandsAskedAgain() {
+        due.sentence("ERRANDS: of those who are there, whoever was there before");
+        PromiseWalk x = Towns.of("t29;b011;b011;b011;b011;b011");
+        x.give(0, 0, 1, 1);
+        rowIs("six", x, 9, 1, 1, 1, 1, 1, 1);
+        for (int many = 1; many <= 5; many++) {
+            String text = "t21" + ";b011".repeat(many);
+            Towns.write(x, 0, Towns.BYTES, text);
+            due.is("town", x.town(0, Towns.BYTES, 0, text.length()), many);
+            due.is(many + " on a STREET of 1", x.errands(-1), 1);
+            due.is("the last one", x.errands(many - 1), 1);
+            due.is("one more", x.errands(many), -9);
+            x.pave(0, 1, 0);
+            due.is("no STREET", x.errands(-1), -9);
+        }
     }
 
     private static void errandsAtItsEnds() {
